@@ -16,6 +16,14 @@ final class Checks {
         }
     }
 
+    /** Of hit i: what = 0, 1, 2 and so on. */
+    void dueHits(ShapeSearch x, String of, int i, int... due) {
+        for (int what = 0; what < due.length; what++) {
+            int w = what;
+            due(of + ": hit(" + i + ", " + what + ")", due[what], () -> x.hit(i, w));
+        }
+    }
+
     /** The answer, or the simple name of what was thrown, behind "throws.". */
     static Object answerOf(Call run) {
         try {

@@ -16,13 +16,6 @@ public final class FindTest {
         CHECKS.end("FindTest");
     }
 
-    private static void hits(ShapeSearch x, String of, int i, int... due) {
-        for (int what = 0; what < due.length; what++) {
-            int w = what;
-            CHECKS.due(of + ": hit(" + i + ", " + what + ")", due[what], () -> x.hit(i, w));
-        }
-    }
-
     private static void refused() {
         ShapeSearch x = new ShapeSearch();
         x.leaf(0, true);
@@ -45,11 +38,11 @@ public final class FindTest {
         x.state(a, b, a, x.name(3, fb, NONE, NONE), b);
         x.state(a, b, NONE, NONE, b);
         CHECKS.due("find f(_)", 3, () -> x.find(shape));
-        hits(x, "f(_)", 0, 0, 0, fa, NONE, a, NONE, NONE, NONE, NONE, NONE);
-        hits(x, "f(_)", 1, 1, NONE, fb, NONE, b, NONE, NONE, NONE, NONE, NONE);
-        hits(x, "f(_)", 2, 2, 3, fb, NONE, b, NONE, NONE, NONE, NONE, NONE);
-        hits(x, "f(_)", 3, NONE, NONE, NONE, NONE, NONE, NONE, NONE, NONE);
-        hits(x, "f(_)", -1, NONE, NONE, NONE, NONE, NONE);
+        CHECKS.dueHits(x, "f(_)", 0, 0, 0, fa, NONE, a, NONE, NONE, NONE, NONE, NONE);
+        CHECKS.dueHits(x, "f(_)", 1, 1, NONE, fb, NONE, b, NONE, NONE, NONE, NONE, NONE);
+        CHECKS.dueHits(x, "f(_)", 2, 2, 3, fb, NONE, b, NONE, NONE, NONE, NONE, NONE);
+        CHECKS.dueHits(x, "f(_)", 3, NONE, NONE, NONE, NONE, NONE, NONE, NONE, NONE);
+        CHECKS.dueHits(x, "f(_)", -1, NONE, NONE, NONE, NONE, NONE);
         for (int what : new int[] {-1, 8, 11, 12, Integer.MIN_VALUE, Integer.MAX_VALUE}) {
             CHECKS.due("hit(0, " + what + ")", NONE, () -> x.hit(0, what));
         }
@@ -92,9 +85,9 @@ public final class FindTest {
         int third = x.leaf(2, true);
         int last = x.leaf(3, true);
         CHECKS.due("find g(_3, _0, _2)", 1, () -> x.find(x.name(2, last, first, third)));
-        hits(x, "g(_3, _0, _2)", 0, 0, NONE, gabv, NONE, b, NONE, v, a, NONE);
+        CHECKS.dueHits(x, "g(_3, _0, _2)", 0, 0, NONE, gabv, NONE, b, NONE, v, a, NONE);
         CHECKS.due("find g(a, _2, v)", 1, () -> x.find(x.name(2, a, third, v)));
-        hits(x, "g(a, _2, v)", 0, 0, NONE, gabv, NONE, NONE, NONE, b, NONE, NONE);
+        CHECKS.dueHits(x, "g(a, _2, v)", 0, 0, NONE, gabv, NONE, NONE, NONE, b, NONE, NONE);
         CHECKS.due("find g(b, _2, v)", 0, () -> x.find(x.name(2, b, third, v)));
         CHECKS.due("no hits", NONE, () -> x.hit(0, 0));
     }
@@ -166,6 +159,10 @@ public final class FindTest {
         CHECKS.due("its hole", deep, () -> x.hit(0, 4));
         CHECKS.due("the whole", whole, () -> x.hit(0, 2));
         CHECKS.due("deep in a great term", 1, () -> x.find(t));
+        int b = x.name(2, NONE, NONE, NONE);
+        x.state(NONE, NONE, NONE, NONE, x.name(3, whole, b, NONE));
+        CHECKS.due("behind a great term", 1, () -> x.find(b));
+        CHECKS.due("in the second statement", 1, () -> x.hit(0, 0));
         CHECKS.due("nothing in a great term", 0, () -> x.find(x.name(1, x.leaf(1, false), NONE, NONE)));
     }
 }

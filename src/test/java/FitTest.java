@@ -12,20 +12,15 @@ public final class FitTest {
         variables();
         sameVariableSameTerm();
         goalsVariablesStandForThemselves();
+        lastTerm();
         openVariables();
+        goalsOfEachHit();
         newGoals();
         madeFromWithin();
         goalRefused();
         noRoom();
         greatGoals();
         CHECKS.end("FitTest");
-    }
-
-    private static void hits(ShapeSearch x, String of, int i, int... due) {
-        for (int what = 0; what < due.length; what++) {
-            int w = what;
-            CHECKS.due(of + ": hit(" + i + ", " + what + ")", due[what], () -> x.hit(i, w));
-        }
     }
 
     private static void refused() {
@@ -56,9 +51,9 @@ public final class FitTest {
         int[] order = {3, 7, 1, 5, 6, 4, 0};
         int[] premises = {0, 0, 1, 1, 2, 3, 4};
         for (int i = 0; i < order.length; i++) {
-            hits(x, "fit a", i, order[i], 0, premises[i], NONE, NONE);
+            CHECKS.dueHits(x, "fit a", i, order[i], 0, premises[i], NONE, NONE);
         }
-        hits(x, "fit a", 7, NONE, NONE, NONE, NONE, NONE);
+        CHECKS.dueHits(x, "fit a", 7, NONE, NONE, NONE, NONE, NONE);
     }
 
     private static void variables() {
@@ -72,8 +67,8 @@ public final class FitTest {
         x.state(NONE, NONE, NONE, NONE, w);
         int goal = x.name(2, fa, a, fa);
         CHECKS.due("fit h(f(a), a, f(a))", 2, () -> x.fit(goal));
-        hits(x, "h(v, w, v)", 0, 0, 0, 0, NONE, fa, NONE, NONE, NONE, NONE, NONE, NONE, a, NONE);
-        hits(x, "w", 1, 1, 0, 0, NONE, NONE, NONE, NONE, NONE, NONE, NONE, NONE, goal, NONE);
+        CHECKS.dueHits(x, "h(v, w, v)", 0, 0, 0, 0, NONE, fa, NONE, NONE, NONE, NONE, NONE, NONE, a, NONE);
+        CHECKS.dueHits(x, "w", 1, 1, 0, 0, NONE, NONE, NONE, NONE, NONE, NONE, NONE, NONE, goal, NONE);
         for (int what : new int[] {-1, 12, Integer.MIN_VALUE, Integer.MAX_VALUE}) {
             CHECKS.due("hit(0, " + what + ")", NONE, () -> x.hit(0, what));
         }
@@ -106,9 +101,34 @@ public final class FitTest {
         x.state(NONE, NONE, NONE, NONE, x.name(1, v, v, NONE));
         x.state(gvw, NONE, NONE, NONE, gwv);
         CHECKS.due("fit g(v, w)", 1, () -> x.fit(gvw));
-        hits(x, "g(w, v)", 0, 2, 0, 1, NONE, w, v, NONE);
+        CHECKS.dueHits(x, "g(w, v)", 0, 2, 0, 1, NONE, w, v, NONE);
         CHECKS.due("all at once, not one behind the other", gwv, () -> x.goal(0, 0));
         CHECKS.due("fit v", 0, () -> x.fit(v));
+    }
+
+    /** The conclusion is the last term that there may be. */
+    private static void lastTerm() {
+        ShapeSearch x = new ShapeSearch();
+        int v = x.leaf(0, false);
+        int a = x.name(0, NONE, NONE, NONE);
+        int b = x.name(1, NONE, NONE, NONE);
+        int hole = x.leaf(0, true);
+        int goal = x.name(2, a, b, NONE);
+        int fitting = x.name(2, b, b, NONE);
+        int shape = x.name(2, hole, hole, NONE);
+        for (int t = 7; t < 99; t++) {
+            x.name(3, t - 1, NONE, NONE);
+        }
+        int last = x.name(2, v, v, NONE);
+        x.state(NONE, NONE, NONE, NONE, last);
+        CHECKS.due("the hundredth term", 99, () -> last);
+        CHECKS.due("g(v, v) does not fit g(a, b)", 0, () -> x.fit(goal));
+        CHECKS.due("nor does it follow", false, () -> x.follows(goal, 1));
+        CHECKS.due("g(v, v) fits g(b, b)", 1, () -> x.fit(fitting));
+        CHECKS.due("v is b", b, () -> x.hit(0, 4));
+        CHECKS.due("it is found by g(_, _)", 1, () -> x.find(shape));
+        CHECKS.due("the term there", last, () -> x.hit(0, 2));
+        CHECKS.due("it is found by itself", 1, () -> x.find(last));
     }
 
     private static void openVariables() {
@@ -123,7 +143,7 @@ public final class FitTest {
         int gwu = x.name(2, w, u, NONE);
         x.state(gvw, gwu, gwu, NONE, fv);
         CHECKS.due("fit f(a)", 1, () -> x.fit(fa));
-        hits(x, "f(v)", 0, 0, 2, 3, NONE, a, NONE, NONE, NONE, NONE, NONE);
+        CHECKS.dueHits(x, "f(v)", 0, 0, 2, 3, NONE, a, NONE, NONE, NONE, NONE, NONE);
         CHECKS.due("new goal g(a, w)", 8, () -> x.goal(0, 0));
         CHECKS.due("its first place", a, () -> x.term(8, 2));
         CHECKS.due("its second place", w, () -> x.term(8, 3));
@@ -133,6 +153,30 @@ public final class FitTest {
         CHECKS.due("the goal's w and the open w", x.about(0), () -> x.goal(0, 0));
         CHECKS.due("g(w, w): first", w, () -> x.term(x.about(0) - 1, 2));
         CHECKS.due("g(w, w): second", w, () -> x.term(x.about(0) - 1, 3));
+    }
+
+    /** Goals of several hits, asked for in another order, each with its own hit's terms. */
+    private static void goalsOfEachHit() {
+        ShapeSearch x = new ShapeSearch();
+        int w = x.leaf(1, false);
+        int a = x.name(0, NONE, NONE, NONE);
+        int b = x.name(3, NONE, NONE, NONE);
+        int v = x.leaf(0, false);
+        int gvw = x.name(1, v, w, NONE);
+        int gwv = x.name(1, w, v, NONE);
+        int gab = x.name(1, a, b, NONE);
+        x.state(x.name(2, v, NONE, NONE), w, NONE, NONE, gvw);
+        x.state(x.name(2, v, NONE, NONE), w, NONE, NONE, gwv);
+        x.state(w, NONE, NONE, NONE, gab);
+        CHECKS.due("fit g(a, b)", 3, () -> x.fit(gab));
+        CHECKS.due("an open variable, alone, the first term", w, () -> x.goal(0, 0));
+        CHECKS.due("w is a", a, () -> x.goal(2, 1));
+        CHECKS.due("w is b", b, () -> x.goal(1, 1));
+        int made = x.about(0);
+        CHECKS.due("f(b)", made, () -> x.goal(2, 0));
+        CHECKS.due("f(a)", made + 1, () -> x.goal(1, 0));
+        CHECKS.due("of b", b, () -> x.term(made, 2));
+        CHECKS.due("of a", a, () -> x.term(made + 1, 2));
     }
 
     private static void newGoals() {

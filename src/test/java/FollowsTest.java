@@ -14,10 +14,13 @@ public final class FollowsTest {
         leftStatementsDoNotCount();
         openStatements();
         variables();
+        laterNewGoals();
         hundredSteps();
         thousandTries();
         growingGoals();
         deepPremises();
+        passingTermsGo();
+        wideProof();
         noTermsAreMade();
         CHECKS.end("FollowsTest");
     }
@@ -229,6 +232,69 @@ public final class FollowsTest {
         }
         follow(x, "with others behind it", pa, 100, UNSUPPORTED, 1000, 0, NONE);
         CHECKS.due("and a hundred terms", 100, () -> x.about(0));
+    }
+
+    /** Two long ways, one behind the other: together they would have more passing terms than one may. */
+    private static void passingTermsGo() {
+        ShapeSearch x = new ShapeSearch();
+        int v = x.leaf(0, false);
+        int t = x.name(0, NONE, NONE, NONE);
+        int pv = x.name(1, v, NONE, NONE);
+        int deep = v;
+        for (int i = 0; i < 90; i++) {
+            deep = x.name(2, deep, NONE, NONE);
+        }
+        x.state(x.name(1, deep, NONE, NONE), NONE, NONE, NONE, pv);
+        x.state(x.name(1, x.name(3, NONE, NONE, NONE), NONE, NONE), NONE, NONE, NONE, t);
+        x.state(x.name(1, x.name(4, NONE, NONE, NONE), NONE, NONE), NONE, NONE, NONE, t);
+        follow(x, "two long ways", t, 100, false, 3 + 2 * 99 * 3, 0, NONE);
+    }
+
+    /** p(s(d), v) follows from four p(d, ..), down to p(0, v): twice 341 statements, and three more. */
+    private static void wideProof() {
+        ShapeSearch x = new ShapeSearch();
+        int v = x.leaf(0, false);
+        int d = x.leaf(1, false);
+        int zero = x.name(0, NONE, NONE, NONE);
+        int[] below = new int[4];
+        for (int k = 0; k < 4; k++) {
+            int deep = v;
+            for (int i = 0; i < 19; i++) {
+                deep = x.name(10 + k, deep, NONE, NONE);
+            }
+            below[k] = x.name(1, d, deep, NONE);
+        }
+        x.state(below[0], below[1], below[2], below[3], x.name(1, x.name(2, d, NONE, NONE), v, NONE));
+        x.state(NONE, NONE, NONE, NONE, x.name(1, zero, v, NONE));
+        int four = zero;
+        for (int i = 0; i < 4; i++) {
+            four = x.name(2, four, NONE, NONE);
+        }
+        int a = x.name(3, NONE, NONE, NONE);
+        int b = x.name(4, NONE, NONE, NONE);
+        int t = x.name(5, NONE, NONE, NONE);
+        int pzero = x.name(1, zero, a, NONE);
+        x.state(x.name(1, four, a, NONE), x.name(1, four, b, NONE), pzero, pzero, t);
+        follow(x, "in five steps", t, 5, false, 3 + 4 * 3, 0, NONE);
+        follow(x, "in six steps", t, 6, true, 3 + 2 * (85 * 2 + 256) + 2, 1 + 2 * 341 + 2, 2);
+    }
+
+    /** A later new goal has the terms of its own level, whatever was matched for the goals ahead of it. */
+    private static void laterNewGoals() {
+        ShapeSearch x = new ShapeSearch();
+        int v = x.leaf(0, false);
+        int w = x.leaf(1, false);
+        int a = x.name(0, NONE, NONE, NONE);
+        int b = x.name(1, NONE, NONE, NONE);
+        int pvw = x.name(2, v, w, NONE);
+        int qv = x.name(3, v, NONE, NONE);
+        int rw = x.name(4, w, NONE, NONE);
+        int ra = x.name(4, a, NONE, NONE);
+        x.state(qv, rw, NONE, NONE, pvw);
+        x.state(NONE, NONE, NONE, NONE, x.name(3, w, NONE, NONE));
+        x.state(NONE, NONE, NONE, NONE, ra);
+        follow(x, "r(a) is stated", x.name(2, b, a, NONE), 2, true, 3 + 1 + 2, 3, 0);
+        follow(x, "r(b) is not", x.name(2, a, b, NONE), 2, false, 3 + 1 + 3, 0, NONE);
     }
 
     private static void noTermsAreMade() {

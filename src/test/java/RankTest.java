@@ -14,13 +14,6 @@ public final class RankTest {
         CHECKS.end("RankTest");
     }
 
-    private static void hits(ShapeSearch x, String of, int i, int... due) {
-        for (int what = 0; what < due.length; what++) {
-            int w = what;
-            CHECKS.due(of + ": hit(" + i + ", " + what + ")", due[what], () -> x.hit(i, w));
-        }
-    }
-
     private static void refused() {
         ShapeSearch x = new ShapeSearch();
         int hole = x.leaf(3, true);
@@ -48,15 +41,15 @@ public final class RankTest {
         x.state(NONE, NONE, NONE, NONE, b);
         x.state(v, x.name(2, v, NONE, NONE), a, a, v);
         CHECKS.due("rank f(a)", 7, () -> x.rank(fa));
-        hits(x, "f(a)", 0, 3, 2, 2, NONE, NONE, NONE);
-        hits(x, "f(a)", 1, 6, 2, 2, NONE, NONE, NONE);
-        hits(x, "f(a)", 2, 2, 2, 3, NONE, NONE, NONE);
-        hits(x, "f(a)", 3, 1, 1, 2, NONE, NONE, NONE);
-        hits(x, "f(a)", 4, 4, 2, 4, NONE, NONE, NONE);
-        hits(x, "f(a)", 5, 0, 0, 2, NONE, NONE, NONE);
-        hits(x, "f(a)", 6, 5, 0, 3, NONE, NONE, NONE);
-        hits(x, "f(a)", 7, NONE, NONE, NONE, NONE);
-        hits(x, "f(a)", -1, NONE, NONE, NONE, NONE);
+        CHECKS.dueHits(x, "f(a)", 0, 3, 2, 2, NONE, NONE, NONE);
+        CHECKS.dueHits(x, "f(a)", 1, 6, 2, 2, NONE, NONE, NONE);
+        CHECKS.dueHits(x, "f(a)", 2, 2, 2, 3, NONE, NONE, NONE);
+        CHECKS.dueHits(x, "f(a)", 3, 1, 1, 2, NONE, NONE, NONE);
+        CHECKS.dueHits(x, "f(a)", 4, 4, 2, 4, NONE, NONE, NONE);
+        CHECKS.dueHits(x, "f(a)", 5, 0, 0, 2, NONE, NONE, NONE);
+        CHECKS.dueHits(x, "f(a)", 6, 5, 0, 3, NONE, NONE, NONE);
+        CHECKS.dueHits(x, "f(a)", 7, NONE, NONE, NONE, NONE);
+        CHECKS.dueHits(x, "f(a)", -1, NONE, NONE, NONE, NONE);
         CHECKS.due("hit(0, -1)", NONE, () -> x.hit(0, -1));
         CHECKS.due("hit(0, 11)", NONE, () -> x.hit(0, 11));
         CHECKS.due("about hits", 7, () -> x.about(3));
@@ -71,8 +64,8 @@ public final class RankTest {
         x.state(NONE, NONE, NONE, NONE, x.name(3, a, a, NONE));
         x.state(x.name(4, c, NONE, NONE), x.name(5, c, NONE, NONE), NONE, NONE, gab);
         CHECKS.due("rank g(a, b)", 2, () -> x.rank(gab));
-        hits(x, "g(a, b)", 0, 0, 2, 3);
-        hits(x, "g(a, b)", 1, 1, 3, 6);
+        CHECKS.dueHits(x, "g(a, b)", 0, 0, 2, 3);
+        CHECKS.dueHits(x, "g(a, b)", 1, 1, 3, 6);
     }
 
     private static void withoutNames() {
@@ -82,8 +75,8 @@ public final class RankTest {
         x.state(NONE, NONE, NONE, NONE, a);
         x.state(v, NONE, NONE, NONE, x.leaf(1, false));
         CHECKS.due("rank v", 2, () -> x.rank(v));
-        hits(x, "v", 0, 0, 0, 1);
-        hits(x, "v", 1, 1, 0, 1);
+        CHECKS.dueHits(x, "v", 0, 0, 0, 1);
+        CHECKS.dueHits(x, "v", 1, 1, 0, 1);
     }
 
     private static void manyNames() {
@@ -96,11 +89,11 @@ public final class RankTest {
         int all = t;
         CHECKS.due("rank all names", 29, () -> x.rank(all));
         for (int i = 0; i < 29; i++) {
-            hits(x, "all names", i, 28 - i, 30 - i, 30);
+            CHECKS.dueHits(x, "all names", i, 28 - i, 30 - i, 30);
         }
         CHECKS.due("rank name 0", 29, () -> x.rank(0));
         for (int i = 0; i < 29; i++) {
-            hits(x, "name 0", i, i, 1, i + 2);
+            CHECKS.dueHits(x, "name 0", i, i, 1, i + 2);
         }
     }
 }

@@ -111,7 +111,11 @@ public final class TermsTest {
         x.leaf(7, false);
         x.leaf(3, true);
         x.name(4, 2, 0, 1);
-        int[][] due = {{0, 29, -1, -1, -1, 1}, {1, 7, -1, -1, -1, 1}, {2, 3, -1, -1, -1, 1}, {0, 4, 2, 0, 1, 4}};
+        x.leaf(0, false);
+        x.leaf(0, true);
+        x.name(0, NONE, NONE, NONE);
+        int[][] due = {{0, 29, -1, -1, -1, 1}, {1, 7, -1, -1, -1, 1}, {2, 3, -1, -1, -1, 1}, {0, 4, 2, 0, 1, 4},
+            {1, 0, -1, -1, -1, 1}, {2, 0, -1, -1, -1, 1}, {0, 0, -1, -1, -1, 1}};
         for (int t = 0; t < due.length; t++) {
             for (int what = 0; what < 6; what++) {
                 int i = t;
@@ -122,7 +126,7 @@ public final class TermsTest {
         for (int what : new int[] {-1, 6, 7, Integer.MIN_VALUE, Integer.MAX_VALUE}) {
             CHECKS.due("term(3, " + what + ")", NONE, () -> x.term(3, what));
         }
-        for (int t : new int[] {-1, 4, 100, Integer.MIN_VALUE, Integer.MAX_VALUE}) {
+        for (int t : new int[] {-1, 7, 100, Integer.MIN_VALUE, Integer.MAX_VALUE}) {
             CHECKS.due("term(" + t + ", 0)", NONE, () -> x.term(t, 0));
             CHECKS.due("term(" + t + ", 5)", NONE, () -> x.term(t, 5));
         }
