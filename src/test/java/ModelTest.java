@@ -104,7 +104,8 @@ public final class ModelTest {
         int a = arity > 0 ? pickTerm() : -1;
         int b = arity > 1 ? pickTerm() : -1;
         int c = arity > 2 ? pickTerm() : -1;
-        alike("name(" + n + ", " + a + ", " + b + ", " + c + ")", () -> x.name(n, a, b, c), () -> model.name(n, a, b, c));
+        alike("name(" + n + ", " + a + ", " + b + ", " + c + ")",
+                () -> x.name(n, a, b, c), () -> model.name(n, a, b, c));
     }
 
     private void callLeaf() {
